@@ -24,26 +24,6 @@ public final class AheadTest {
         CHECKS.end();
     }
 
-    /** A rope of 4 places, with this many lanes, and a chair for each number of seats, all of them wanted. */
-    private static ChairLift lift(int lanes, int... seats) {
-        ChairLift lift = new ChairLift();
-        lift.stretch(2);
-        for (int lane = 0; lane < lanes; lane++) {
-            lift.addLane();
-        }
-        for (int chair : seats) {
-            lift.addChair(chair);
-        }
-        lift.want(seats.length);
-        return lift;
-    }
-
-    private static void join(ChairLift lift, int lane, int... sizes) {
-        for (int size : sizes) {
-            lift.join(lane, size, 200);
-        }
-    }
-
     /** A wind that lets the rope move in one of 24 steps. */
     private static void moveOnlyAt(ChairLift lift, int step) {
         for (int at = 0; at < 24; at++) {
@@ -53,7 +33,7 @@ public final class AheadTest {
 
     /** A lift in the middle of a day, with something of everything. */
     private static ChairLift busy() {
-        ChairLift lift = lift(4, 2, 3, 6, 1, 4);
+        ChairLift lift = Lifts.lift(4, 2, 3, 6, 1, 4);
         lift.stretch(5);
         lift.setWind(3, 8);
         lift.setWind(9, 6);
@@ -69,8 +49,8 @@ public final class AheadTest {
     }
 
     private static void promise18Foresee() {
-        ChairLift lift = lift(1, 3);
-        join(lift, 0, 2, 3);
+        ChairLift lift = Lifts.lift(1, 3);
+        Lifts.join(lift, 0, 2, 3);
         lift.join(0, 1, 2);
         lift.setWind(1, 8);
         lift.setWind(6, 8);
@@ -91,6 +71,9 @@ public final class AheadTest {
         CHECKS.same("up in the next step", lift.foresee(1, 0), 2);
         lift.pass(1);
         CHECKS.same("up before does not count", lift.foresee(5, 0), 3);
+        lift.join(0, 6, 3);
+        CHECKS.same("who came late has waited less", lift.foresee(2, 1), 6);
+        CHECKS.same("and leaves in time", lift.foresee(3, 1), 0);
     }
 
     private static void promise18ForeseeIsWhatPassTells() {
@@ -118,10 +101,10 @@ public final class AheadTest {
     }
 
     private static void promise19When() {
-        ChairLift lift = lift(2, 2);
-        join(lift, 0, 2, 1, 2);
+        ChairLift lift = Lifts.lift(2, 2);
+        Lifts.join(lift, 0, 2, 1, 2);
         lift.join(1, 2, 4);
-        join(lift, 1, 6);
+        Lifts.join(lift, 1, 6);
         CHECKS.same("the first one", lift.when(0), 3);
         CHECKS.same("it leaves before", lift.when(3), -1);
         CHECKS.same("behind one who leaves comes one who is too many", lift.when(4), -1);
@@ -137,32 +120,32 @@ public final class AheadTest {
         lift.pass(40);
         CHECKS.same("the first one is up still", lift.when(0), 0);
 
-        ChairLift none = lift(1);
+        ChairLift none = Lifts.lift(1);
         none.join(0, 1, 200);
         CHECKS.same("without chairs", none.when(0), -1);
     }
 
     private static void promise19WhenAtMost250() {
         // The rope moves in the steps 9, 33, .. 249: up at the tenth move behind the first one.
-        ChairLift just = lift(1, 1);
+        ChairLift just = Lifts.lift(1, 1);
         just.stretch(10);
         moveOnlyAt(just, 9);
-        join(just, 0, 1);
+        Lifts.join(just, 0, 1);
         CHECKS.same("behind 250 steps", just.when(0), 250);
         just.pass(200);
         CHECKS.same("behind 50 steps", just.when(0), 50);
 
-        ChairLift late = lift(1, 1);
+        ChairLift late = Lifts.lift(1, 1);
         late.stretch(10);
         moveOnlyAt(late, 10);
-        join(late, 0, 1);
+        Lifts.join(late, 0, 1);
         CHECKS.same("behind 251 steps", late.when(0), -1);
         late.pass(1);
         CHECKS.same("a step later", late.when(0), 250);
     }
 
     private static void promise19WhenRefuses() {
-        ChairLift none = lift(1, 1);
+        ChairLift none = Lifts.lift(1, 1);
         CHECKS.refusesIndex("when(0) without groups", none, x -> x.when(0));
         ChairLift lift = busy();
         for (int group : new int[] {Integer.MIN_VALUE, -1, 30, 90, Integer.MAX_VALUE}) {
@@ -171,30 +154,34 @@ public final class AheadTest {
     }
 
     private static void promise20Advise() {
-        ChairLift none = lift(0, 6);
+        ChairLift none = Lifts.lift(0, 6);
         CHECKS.same("without lanes", none.advise(1), -1);
-        ChairLift noChair = lift(2);
+        ChairLift noChair = Lifts.lift(2);
         CHECKS.same("without chairs", noChair.advise(1), -1);
 
-        ChairLift lift = lift(3, 3);
+        ChairLift lift = Lifts.lift(3, 3);
         CHECKS.same("of several the first one", lift.advise(3), 0);
         CHECKS.same("larger than the chair", lift.advise(4), -1);
-        join(lift, 0, 1);
+        Lifts.join(lift, 0, 1);
         CHECKS.same("beside the one ahead", lift.advise(2), 0);
         CHECKS.same("in the same chair as the one ahead", lift.advise(1), 0);
         CHECKS.same("in none before it", lift.advise(3), 0);
-        join(lift, 0, 3);
+        Lifts.join(lift, 0, 3);
         CHECKS.same("a lane with less ahead", lift.advise(2), 1);
         CHECKS.same("too many beside the one ahead", lift.advise(3), 1);
-        join(lift, 1, 2);
+        Lifts.join(lift, 1, 2);
         CHECKS.same("the seats are taken", lift.advise(1), 2);
-        join(lift, 1, 6);
-        join(lift, 2, 6);
+        Lifts.join(lift, 1, 6);
+        Lifts.join(lift, 2, 6);
         CHECKS.same("the only lane that goes on", lift.advise(1), 0);
+
+        ChairLift chairByChair = Lifts.lift(2, 1, 1, 1);
+        Lifts.join(chairByChair, 0, 1, 1);
+        CHECKS.same("quicker by one step", chairByChair.advise(1), 1);
     }
 
     private static void promise20AdviseLeavesOutShutLanes() {
-        ChairLift lift = lift(3, 3);
+        ChairLift lift = Lifts.lift(3, 3);
         lift.shut(0, true);
         CHECKS.same("the first open one", lift.advise(1), 1);
         lift.shut(1, true);
@@ -207,12 +194,12 @@ public final class AheadTest {
 
     private static void promise20AdviseWithin200() {
         // The rope moves in the steps 7, 31, .. 199: up at the eighth move behind the first one.
-        ChairLift just = lift(2, 2);
+        ChairLift just = Lifts.lift(2, 2);
         just.stretch(8);
         moveOnlyAt(just, 7);
         CHECKS.same("up behind 200 steps", just.advise(2), 0);
 
-        ChairLift late = lift(2, 2);
+        ChairLift late = Lifts.lift(2, 2);
         late.stretch(8);
         moveOnlyAt(late, 8);
         CHECKS.same("up behind 201 steps", late.advise(2), -1);
@@ -220,17 +207,17 @@ public final class AheadTest {
         CHECKS.same("a step later", late.advise(2), 0);
 
         // In a group that the chair takes first, the new one would be up at 200 in one lane only.
-        ChairLift second = lift(2, 2);
+        ChairLift second = Lifts.lift(2, 2);
         second.stretch(8);
         moveOnlyAt(second, 7);
-        join(second, 0, 2);
+        Lifts.join(second, 0, 2);
         CHECKS.same("the turn of the lane 0 is taken", second.advise(2), -1);
         second.change(0, 1);
         CHECKS.same("from the lane 0 in time", second.advise(2), 0);
     }
 
     private static void promise20AdviseWithNinetyGroups() {
-        ChairLift lift = lift(3, 6);
+        ChairLift lift = Lifts.lift(3, 6);
         for (int group = 0; group < 90; group++) {
             lift.join(group % 2, 1, 200);
         }
@@ -255,9 +242,9 @@ public final class AheadTest {
     }
 
     private static void promise21Needs() {
-        ChairLift lift = lift(1, 1, 1, 1);
+        ChairLift lift = Lifts.lift(1, 1, 1, 1);
         lift.want(0);
-        join(lift, 0, 1, 1, 1, 1, 1, 1);
+        Lifts.join(lift, 0, 1, 1, 1, 1, 1, 1);
         CHECKS.same("one for the first ride", lift.needs(1, 3), 1);
         CHECKS.same("not in two steps", lift.needs(1, 2), -1);
         CHECKS.same("two one behind the other", lift.needs(2, 4), 2);
@@ -271,9 +258,11 @@ public final class AheadTest {
         CHECKS.same("what is wanted now does not count", lift.needs(2, 7), 1);
         lift.pass(2);
         CHECKS.same("two ride already", lift.needs(2, 2), 0);
+        CHECKS.same("one is up in the next step", lift.needs(1, 1), 0);
+        CHECKS.same("but not two", lift.needs(2, 1), -1);
         CHECKS.same("a third one is needed", lift.needs(3, 3), 3);
         CHECKS.same("the two on the rope, as the first one is back soonest", lift.needs(3, 5), 2);
-        CHECKS.same("none without chairs", lift(1).needs(1, 100), -1);
+        CHECKS.same("none without chairs", Lifts.lift(1).needs(1, 100), -1);
         CHECKS.same("the limits", lift.needs(500, 100), -1);
     }
 
@@ -305,18 +294,18 @@ public final class AheadTest {
     }
 
     private static void promise22Mean() {
-        ChairLift lift = lift(1, 5, 2);
+        ChairLift lift = Lifts.lift(1, 5, 2);
         CHECKS.same("at first", lift.mean(), 0.0);
         lift.pass(1);
         CHECKS.same("when the chair took none", lift.mean(), 0.0);
-        join(lift, 0, 1, 1, 1);
+        Lifts.join(lift, 0, 1, 1, 1);
         lift.pass(1);
         CHECKS.same("two riders in one step", lift.mean(), 2.0);
         lift.pass(2);
         CHECKS.same("two steps without", lift.mean(), 2.0);
         lift.pass(1);
         CHECKS.same("three riders in two steps", lift.mean(), 1.5);
-        join(lift, 0, 1);
+        Lifts.join(lift, 0, 1);
         lift.pass(1);
         CHECKS.same("four riders in three steps", lift.mean(), 4.0 / 3.0);
         lift.pass(100);
@@ -338,9 +327,9 @@ public final class AheadTest {
     }
 
     private static void promise23Digest() {
-        ChairLift lift = lift(0);
+        ChairLift lift = Lifts.lift(0);
         CHECKS.same("without anything", lift.digest(), digestOf(lift));
-        lift = lift(3, 1, 2, 3, 4, 5, 6);
+        lift = Lifts.lift(3, 1, 2, 3, 4, 5, 6);
         lift.want(2);
         CHECKS.same("without groups", lift.digest(), digestOf(lift));
         for (int group = 0; group < 40; group++) {

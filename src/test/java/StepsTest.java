@@ -27,29 +27,9 @@ public final class StepsTest {
         CHECKS.end();
     }
 
-    /** A rope of 4 places, with this many lanes, and a chair for each number of seats, all of them wanted. */
-    private static ChairLift lift(int lanes, int... seats) {
-        ChairLift lift = new ChairLift();
-        lift.stretch(2);
-        for (int lane = 0; lane < lanes; lane++) {
-            lift.addLane();
-        }
-        for (int chair : seats) {
-            lift.addChair(chair);
-        }
-        lift.want(seats.length);
-        return lift;
-    }
-
-    private static void join(ChairLift lift, int lane, int... sizes) {
-        for (int size : sizes) {
-            lift.join(lane, size, 200);
-        }
-    }
-
     private static void promise16Pass() {
-        ChairLift lift = lift(1, 3);
-        join(lift, 0, 3, 2, 1, 3);
+        ChairLift lift = Lifts.lift(1, 3);
+        Lifts.join(lift, 0, 3, 2, 1, 3);
         CHECKS.same("before they are up", lift.pass(2), 0);
         CHECKS.same("the step in which they are up", lift.pass(1), 3);
         CHECKS.same("the step behind", lift.pass(1), 0);
@@ -58,11 +38,11 @@ public final class StepsTest {
         CHECKS.same("200 steps", lift.pass(200), 0);
         CHECKS.same("the step", lift.count(0), 212);
 
-        ChairLift whole = lift(2, 2, 4);
-        ChairLift parts = lift(2, 2, 4);
+        ChairLift whole = Lifts.lift(2, 2, 4);
+        ChairLift parts = Lifts.lift(2, 2, 4);
         int upInParts = 0;
-        join(whole, 0, 1, 2, 3, 4, 1, 2, 1, 1);
-        join(parts, 0, 1, 2, 3, 4, 1, 2, 1, 1);
+        Lifts.join(whole, 0, 1, 2, 3, 4, 1, 2, 1, 1);
+        Lifts.join(parts, 0, 1, 2, 3, 4, 1, 2, 1, 1);
         for (int step = 0; step < 30; step++) {
             upInParts += parts.pass(1);
         }
@@ -71,8 +51,8 @@ public final class StepsTest {
     }
 
     private static void promise16PassRefuses() {
-        ChairLift lift = lift(1, 3);
-        join(lift, 0, 1);
+        ChairLift lift = Lifts.lift(1, 3);
+        Lifts.join(lift, 0, 1);
         for (int steps : new int[] {Integer.MIN_VALUE, -1, 0, 201, 202, Integer.MAX_VALUE}) {
             CHECKS.refusesArgument("pass of wrong steps", lift, x -> x.pass(steps));
         }
@@ -80,8 +60,8 @@ public final class StepsTest {
 
     private static void pointOneWind() {
         for (int wind = 0; wind <= 9; wind++) {
-            ChairLift lift = lift(1, 2);
-            join(lift, 0, 2);
+            ChairLift lift = Lifts.lift(1, 2);
+            Lifts.join(lift, 0, 2);
             for (int at = 1; at < 24; at++) {
                 lift.setWind(at, wind);
             }
@@ -97,7 +77,7 @@ public final class StepsTest {
 
     private static void pointOneOddSteps() {
         for (int wind = 5; wind <= 7; wind++) {
-            ChairLift lift = lift(0, 1);
+            ChairLift lift = Lifts.lift(0, 1);
             lift.setWind(0, wind);
             lift.setWind(1, wind);
             lift.pass(1);
@@ -110,7 +90,7 @@ public final class StepsTest {
     }
 
     private static void pointOneTableGoesRound() {
-        ChairLift lift = lift(1, 6);
+        ChairLift lift = Lifts.lift(1, 6);
         lift.setWind(23, 8);
         lift.pass(23);
         CHECKS.same("before the step 23", lift.count(9), 0);
@@ -125,9 +105,9 @@ public final class StepsTest {
     }
 
     private static void pointOneWindTurnsColdOnlyWhoRides() {
-        ChairLift lift = lift(2, 3);
-        join(lift, 0, 1, 6);
-        join(lift, 1, 2);
+        ChairLift lift = Lifts.lift(2, 3);
+        Lifts.join(lift, 0, 1, 6);
+        Lifts.join(lift, 1, 2);
         lift.pass(2);
         lift.setWind(2, 8);
         lift.pass(1);
@@ -142,9 +122,9 @@ public final class StepsTest {
     }
 
     private static void pointTwoNothingHappensWhileTheRopeStands() {
-        ChairLift lift = lift(1, 3);
+        ChairLift lift = Lifts.lift(1, 3);
         lift.setWind(0, 8);
-        join(lift, 0, 3, 1);
+        Lifts.join(lift, 0, 3, 1);
         lift.pass(1);
         CHECKS.same("no chair comes", lift.count(2), 0);
         lift.pass(2);
@@ -160,8 +140,8 @@ public final class StepsTest {
     }
 
     private static void pointTwoUpBeforeTheValley() {
-        ChairLift lift = lift(1, 1, 1, 1, 1);
-        join(lift, 0, 1, 1, 1, 1, 1, 1);
+        ChairLift lift = Lifts.lift(1, 1, 1, 1, 1);
+        Lifts.join(lift, 0, 1, 1, 1, 1, 1, 1);
         lift.pass(4);
         CHECKS.same("all places taken", lift.count(2), 4);
         CHECKS.same("places", Checks.row(lift.chair(0, 1), lift.chair(1, 1), lift.chair(2, 1), lift.chair(3, 1)),
@@ -175,7 +155,7 @@ public final class StepsTest {
     }
 
     private static void pointTwoExchange() {
-        ChairLift lift = lift(0, 1, 2, 3, 4, 5, 6);
+        ChairLift lift = Lifts.lift(0, 1, 2, 3, 4, 5, 6);
         lift.pass(4);
         CHECKS.same("one in each step", Checks.shed(lift), "4 5");
         lift.pass(4);
@@ -197,7 +177,7 @@ public final class StepsTest {
     }
 
     private static void pointTwoNoChairInTheShed() {
-        ChairLift lift = lift(0, 1);
+        ChairLift lift = Lifts.lift(0, 1);
         lift.want(5);
         lift.pass(3);
         CHECKS.same("one is there", lift.count(2), 1);
@@ -205,9 +185,9 @@ public final class StepsTest {
     }
 
     private static void pointTwoChairThatGoesDoesNotLoad() {
-        ChairLift lift = lift(1, 2, 2);
+        ChairLift lift = Lifts.lift(1, 2, 2);
         lift.pass(3);
-        join(lift, 0, 1);
+        Lifts.join(lift, 0, 1);
         lift.want(1);
         lift.pass(1);
         CHECKS.same("the rope while none is at the valley", lift.count(2), 2);
@@ -219,10 +199,10 @@ public final class StepsTest {
     }
 
     private static void loadingTakesTurns() {
-        ChairLift lift = lift(3, 4, 4);
-        join(lift, 0, 1, 1, 1);
-        join(lift, 1, 1, 1, 1);
-        join(lift, 2, 1, 1, 1);
+        ChairLift lift = Lifts.lift(3, 4, 4);
+        Lifts.join(lift, 0, 1, 1, 1);
+        Lifts.join(lift, 1, 1, 1, 1);
+        Lifts.join(lift, 2, 1, 1, 1);
         lift.pass(1);
         CHECKS.same("from 0, 1, 2 and 0", Checks.row(lift.lane(0, 0), lift.lane(1, 0), lift.lane(2, 0)), "1 2 2");
         CHECKS.same("the turn", lift.count(10), 1);
@@ -233,10 +213,10 @@ public final class StepsTest {
     }
 
     private static void loadingSkipsWhoIsTooMany() {
-        ChairLift lift = lift(3, 5);
-        join(lift, 0, 3, 1);
-        join(lift, 1, 3);
-        join(lift, 2, 2);
+        ChairLift lift = Lifts.lift(3, 5);
+        Lifts.join(lift, 0, 3, 1);
+        Lifts.join(lift, 1, 3);
+        Lifts.join(lift, 2, 2);
         lift.pass(1);
         CHECKS.same("who rides", Checks.row(lift.group(0, 2), lift.group(1, 2), lift.group(2, 2), lift.group(3, 2)),
                 "1 0 0 1");
@@ -244,9 +224,9 @@ public final class StepsTest {
     }
 
     private static void loadingLooksAtTheFirstOnly() {
-        ChairLift lift = lift(2, 2);
-        join(lift, 0, 3, 1);
-        join(lift, 1, 1, 6, 1);
+        ChairLift lift = Lifts.lift(2, 2);
+        Lifts.join(lift, 0, 3, 1);
+        Lifts.join(lift, 1, 1, 6, 1);
         lift.pass(1);
         CHECKS.same("queue 0", Checks.queue(lift, 0), "0 1");
         CHECKS.same("queue 1", Checks.queue(lift, 1), "3 4");
@@ -255,10 +235,10 @@ public final class StepsTest {
     }
 
     private static void loadingKeepsTheTurnIfNoneFits() {
-        ChairLift lift = lift(3, 1);
-        join(lift, 0, 1);
-        join(lift, 1, 2);
-        join(lift, 2, 6);
+        ChairLift lift = Lifts.lift(3, 1);
+        Lifts.join(lift, 0, 1);
+        Lifts.join(lift, 1, 2);
+        Lifts.join(lift, 2, 6);
         lift.pass(1);
         CHECKS.same("the turn", lift.count(10), 1);
         lift.pass(4);
@@ -268,9 +248,9 @@ public final class StepsTest {
     }
 
     private static void loadingFromShutLanes() {
-        ChairLift lift = lift(2, 2);
-        join(lift, 0, 1);
-        join(lift, 1, 1);
+        ChairLift lift = Lifts.lift(2, 2);
+        Lifts.join(lift, 0, 1);
+        Lifts.join(lift, 1, 1);
         lift.shut(0, true);
         lift.shut(1, true);
         lift.pass(1);
@@ -278,15 +258,15 @@ public final class StepsTest {
     }
 
     private static void loadingTurnWithFewerLanes() {
-        ChairLift lift = lift(1, 1);
-        join(lift, 0, 1, 1);
+        ChairLift lift = Lifts.lift(1, 1);
+        Lifts.join(lift, 0, 1, 1);
         lift.pass(1);
         CHECKS.same("the turn with one lane", lift.count(10), 0);
         lift.addLane();
         CHECKS.same("the turn with a new lane", lift.count(10), 0);
         lift.pass(4);
         CHECKS.same("the turn with two lanes", lift.count(10), 1);
-        join(lift, 0, 1);
+        Lifts.join(lift, 0, 1);
         lift.pass(4);
         CHECKS.same("the turn of an empty lane goes by", lift.group(2, 2), 1);
         CHECKS.same("the turn behind the lane 0", lift.count(10), 1);
@@ -294,7 +274,7 @@ public final class StepsTest {
 
     private static void pointThreePatience() {
         for (int patience = 1; patience <= 200; patience++) {
-            ChairLift lift = lift(1);
+            ChairLift lift = Lifts.lift(1);
             lift.pass(patience % 7 + 1);
             lift.join(0, 1, patience);
             if (patience > 1) {
@@ -307,7 +287,7 @@ public final class StepsTest {
     }
 
     private static void pointThreeAfterLoading() {
-        ChairLift lift = lift(1, 1);
+        ChairLift lift = Lifts.lift(1, 1);
         lift.join(0, 1, 1);
         lift.join(0, 1, 1);
         lift.join(0, 1, 2);
@@ -319,7 +299,7 @@ public final class StepsTest {
     }
 
     private static void pointThreeWhileTheRopeStands() {
-        ChairLift lift = lift(2, 1);
+        ChairLift lift = Lifts.lift(2, 1);
         for (int at = 0; at < 24; at++) {
             lift.setWind(at, 9);
         }
@@ -336,7 +316,7 @@ public final class StepsTest {
     }
 
     private static void pointThreeNotWhoRides() {
-        ChairLift lift = lift(1, 1);
+        ChairLift lift = Lifts.lift(1, 1);
         lift.stretch(12);
         lift.join(0, 1, 5);
         lift.pass(13);
