@@ -24,13 +24,6 @@ public final class AheadTest {
         CHECKS.end();
     }
 
-    /** A wind that lets the rope move in one of 24 steps. */
-    private static void moveOnlyAt(ChairLift lift, int step) {
-        for (int at = 0; at < 24; at++) {
-            lift.setWind(at, at == step ? 0 : 9);
-        }
-    }
-
     /** A lift in the middle of a day, with something of everything. */
     private static ChairLift busy() {
         ChairLift lift = Lifts.lift(4, 2, 3, 6, 1, 4);
@@ -129,7 +122,7 @@ public final class AheadTest {
         // The rope moves in the steps 9, 33, .. 249: up at the tenth move behind the first one.
         ChairLift just = Lifts.lift(1, 1);
         just.stretch(10);
-        moveOnlyAt(just, 9);
+        Lifts.moveOnlyAt(just, 9);
         Lifts.join(just, 0, 1);
         CHECKS.same("behind 250 steps", just.when(0), 250);
         just.pass(200);
@@ -137,7 +130,7 @@ public final class AheadTest {
 
         ChairLift late = Lifts.lift(1, 1);
         late.stretch(10);
-        moveOnlyAt(late, 10);
+        Lifts.moveOnlyAt(late, 10);
         Lifts.join(late, 0, 1);
         CHECKS.same("behind 251 steps", late.when(0), -1);
         late.pass(1);
@@ -196,12 +189,12 @@ public final class AheadTest {
         // The rope moves in the steps 7, 31, .. 199: up at the eighth move behind the first one.
         ChairLift just = Lifts.lift(2, 2);
         just.stretch(8);
-        moveOnlyAt(just, 7);
+        Lifts.moveOnlyAt(just, 7);
         CHECKS.same("up behind 200 steps", just.advise(2), 0);
 
         ChairLift late = Lifts.lift(2, 2);
         late.stretch(8);
-        moveOnlyAt(late, 8);
+        Lifts.moveOnlyAt(late, 8);
         CHECKS.same("up behind 201 steps", late.advise(2), -1);
         late.pass(1);
         CHECKS.same("a step later", late.advise(2), 0);
@@ -209,7 +202,7 @@ public final class AheadTest {
         // In a group that the chair takes first, the new one would be up at 200 in one lane only.
         ChairLift second = Lifts.lift(2, 2);
         second.stretch(8);
-        moveOnlyAt(second, 7);
+        Lifts.moveOnlyAt(second, 7);
         Lifts.join(second, 0, 2);
         CHECKS.same("the turn of the lane 0 is taken", second.advise(2), -1);
         second.change(0, 1);
@@ -328,50 +321,23 @@ public final class AheadTest {
 
     private static void promise23Digest() {
         ChairLift lift = Lifts.lift(0);
-        CHECKS.same("without anything", lift.digest(), digestOf(lift));
+        CHECKS.same("without anything", lift.digest(), Checks.digestOf(lift));
         lift = Lifts.lift(3, 1, 2, 3, 4, 5, 6);
         lift.want(2);
-        CHECKS.same("without groups", lift.digest(), digestOf(lift));
+        CHECKS.same("without groups", lift.digest(), Checks.digestOf(lift));
         for (int group = 0; group < 40; group++) {
             lift.join(group % 3, group % 6 + 1, group + 5);
             lift.setWind(group % 24, group % 10);
             lift.pass(1);
-            CHECKS.same("with groups", lift.digest(), digestOf(lift));
+            CHECKS.same("with groups", lift.digest(), Checks.digestOf(lift));
         }
         CHECKS.isTrue("something waits in two lanes", lift.lane(0, 0) > 0 && lift.lane(1, 0) > 0);
         lift = busy();
-        CHECKS.same("of a busy lift", lift.digest(), digestOf(lift));
+        CHECKS.same("of a busy lift", lift.digest(), Checks.digestOf(lift));
         lift.shut(0, true);
         lift.want(0);
         lift.pass(30);
-        CHECKS.same("of a busy lift later", lift.digest(), digestOf(lift));
-    }
-
-    private static long digestOf(ChairLift lift) {
-        long d = 677;
-        for (int what = 0; what <= 12; what++) {
-            d = d * 31 + lift.count(what);
-        }
-        for (int at = 0; at < 24; at++) {
-            int wind = lift.setWind(at, 0);
-            lift.setWind(at, wind);
-            d = d * 31 + wind;
-        }
-        StringBuilder rest = new StringBuilder();
-        for (int group = 0; group < lift.count(4); group++) {
-            rest.append(Checks.group(lift, group)).append(' ');
-        }
-        for (int chair = 0; chair < lift.count(1); chair++) {
-            rest.append(Checks.chair(lift, chair)).append(' ');
-        }
-        for (int lane = 0; lane < lift.count(3); lane++) {
-            rest.append(Checks.lane(lift, lane)).append(' ').append(Checks.queue(lift, lane)).append(' ');
-        }
-        rest.append(Checks.shed(lift));
-        for (String number : rest.toString().trim().split(" +")) {
-            d = number.isEmpty() ? d : d * 31 + Long.parseLong(number);
-        }
-        return d;
+        CHECKS.same("of a busy lift later", lift.digest(), Checks.digestOf(lift));
     }
 
     private static void nothingIsChanged() {

@@ -47,8 +47,17 @@ final class Checks {
         refuses(what, IllegalStateException.class, lift, call);
     }
 
+    void takes(String what, ChairLift lift, Call call) {
+        made++;
+        try {
+            call.on(lift);
+        } catch (RuntimeException e) {
+            report(what + " throws " + e.getClass());
+        }
+    }
+
     /** The call throws exactly this exception, and nothing that can be asked for has changed. */
-    private void refuses(String what, Class<?> due, ChairLift lift, Call call) {
+    void refuses(String what, Class<?> due, ChairLift lift, Call call) {
         String before = allOf(lift);
         Class<?> got = null;
         try {
@@ -125,6 +134,34 @@ final class Checks {
             counts[what] = lift.count(what);
         }
         return row(counts);
+    }
+
+    /** The digest, computed from what the other calls tell. */
+    static long digestOf(ChairLift lift) {
+        long d = 677;
+        for (int what = 0; what <= 12; what++) {
+            d = d * 31 + lift.count(what);
+        }
+        for (int at = 0; at < 24; at++) {
+            int wind = lift.setWind(at, 0);
+            lift.setWind(at, wind);
+            d = d * 31 + wind;
+        }
+        StringBuilder rest = new StringBuilder();
+        for (int group = 0; group < lift.count(4); group++) {
+            rest.append(group(lift, group)).append(' ');
+        }
+        for (int chair = 0; chair < lift.count(1); chair++) {
+            rest.append(chair(lift, chair)).append(' ');
+        }
+        for (int lane = 0; lane < lift.count(3); lane++) {
+            rest.append(lane(lift, lane)).append(' ').append(queue(lift, lane)).append(' ');
+        }
+        rest.append(shed(lift));
+        for (String number : rest.toString().trim().split(" +")) {
+            d = number.isEmpty() ? d : d * 31 + Long.parseLong(number);
+        }
+        return d;
     }
 
     void report(String text) {
