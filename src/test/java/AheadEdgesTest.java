@@ -21,6 +21,7 @@ public final class AheadEdgesTest {
         promise20AdviseOneStepEarlier();
         promise20AdviseShutLanes();
         promise20AdviseWithNinetyGroups();
+        promise20AdviseIsNotSeenLater();
         promise21NeedsTheStep100();
         promise21NeedsFiveHundred();
         promise21NeedsNoneAndAll();
@@ -263,6 +264,22 @@ public final class AheadEdgesTest {
         CHECKS.same("of several that are as good the one with the smallest number", lift.advise(6), 0);
         lift.leave(86);
         CHECKS.same("28 groups wait in the lane 2, 30 in the others", lift.advise(6), 2);
+    }
+
+    private static void promise20AdviseIsNotSeenLater() {
+        ChairLift lift = Lifts.lift(2, 2);
+        Lifts.join(lift, 1, 6);
+        CHECKS.same("the lane that is not blocked", lift.advise(2), 0);
+        CHECKS.same("who waits behind a step", lift.foresee(1, 1), 6);
+        CHECKS.same("who waits behind 150 steps", lift.foresee(150, 1), 6);
+        ChairLift windy = Lifts.lift(1, 2);
+        windy.setWind(1, 9);
+        CHECKS.same("up behind four steps, and cold", windy.advise(2), 0);
+        CHECKS.same("nobody gets colder in truth", windy.foresee(3, 2), 0);
+        CHECKS.same("nobody comes up in truth", windy.foresee(4, 0), 0);
+        windy.join(0, 1, 3);
+        CHECKS.same("who joins then", Checks.group(windy, 0), "1 3 0 0 -1 0 -1 0");
+        CHECKS.same("gets colder", windy.foresee(3, 2), 1);
     }
 
     // ---- needs
