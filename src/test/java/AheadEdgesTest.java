@@ -222,6 +222,12 @@ public final class AheadEdgesTest {
 
     private static void promise20AdviseOneStepEarlier() {
         // One boards in each step, from the lanes in turn.
+        ChairLift two = Lifts.lift(2, 1, 1, 1, 1);
+        Lifts.join(two, 0, 1, 1);
+        CHECKS.same("the lane 1, behind 4 steps, not the lane 0, behind 5", two.advise(1), 1);
+        Lifts.join(two, 1, 1);
+        CHECKS.same("behind 4 steps", two.when(2), 4);
+        CHECKS.same("both are as good then", two.advise(1), 0);
         for (int best = 0; best < 4; best++) {
             ChairLift lift = Lifts.lift(4, 1, 1, 1, 1);
             for (int lane = 0; lane < 4; lane++) {
