@@ -10,6 +10,7 @@ import java.util.HashSet;
 import java.util.List;
 import java.util.Set;
 import java.util.TreeSet;
+import java.util.regex.Matcher;
 import java.util.regex.Pattern;
 
 /** The public face of the document, and the rules of LANGUAGE.md that can be seen from outside. */
@@ -44,8 +45,14 @@ public final class FaceTest {
         face("long digest"),
     };
 
+    // What the interface says ahead of which calls.
+    private static final String HEADED_FACE = "---- rope, chairs, lanes, wind: stretch addChair want addLane shut "
+            + "setWind ---- groups: join change leave ---- what is there: group chair lane queue shed ---- steps: pass count "
+            + "---- looking ahead: foresee when advise needs mean digest ";
+
     public static void main(String[] args) throws IOException {
         theFaceIsThatOfTheDocument();
+        theCallsStandUnderTheirHeads();
         nothingElseIsSeen();
         noStaticStateChanges();
         theSourceKeepsToTheRules();
@@ -71,6 +78,17 @@ public final class FaceTest {
         CHECKS.same("constructors", constructors.length, 1);
         CHECKS.isTrue("it is public", Modifier.isPublic(constructors[0].getModifiers()));
         CHECKS.same("its parameters", constructors[0].getParameterCount(), 0);
+    }
+
+    private static void theCallsStandUnderTheirHeads() throws IOException {
+        Pattern headOrCall = Pattern.compile("^ {4}(?:// (---- (?!helpers).*)|public \\w+ (\\w+)\\(.*)$",
+                Pattern.MULTILINE);
+        Matcher found = headOrCall.matcher(Files.readString(Path.of("src/main/java/ChairLift.java")));
+        StringBuilder got = new StringBuilder();
+        while (found.find()) {
+            got.append(found.group(1) != null ? found.group(1) + ": " : found.group(2) + " ");
+        }
+        CHECKS.same("the heads and their calls", got.toString(), HEADED_FACE);
     }
 
     private static String faceOf(Method method) {
