@@ -47,8 +47,8 @@ public final class FaceTest {
 
     // What the interface says ahead of which calls.
     private static final String HEADED_FACE = "---- rope, chairs, lanes, wind: stretch addChair want addLane shut "
-            + "setWind ---- groups: join change leave ---- what is there: group chair lane queue shed ---- steps: pass count "
-            + "---- looking ahead: foresee when advise needs mean digest ";
+            + "setWind ---- groups: join change leave ---- what is there: group chair lane queue shed ---- steps: pass "
+            + "count ---- looking ahead: foresee when advise needs mean digest ";
 
     public static void main(String[] args) throws IOException {
         theFaceIsThatOfTheDocument();
